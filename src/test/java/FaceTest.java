@@ -1,0 +1,62 @@
+import java.lang.reflect.Constructor;
+import java.lang.reflect.Field;
+import java.lang.reflect.Method;
+import java.lang.reflect.Modifier;
+import java.util.Arrays;
+import java.util.Set;
+import java.util.TreeSet;
+
+/** The public face of the document, and nothing beside it. */
+public final class FaceTest {
+    private static final Set<String> FACE = new TreeSet<>(Arrays.asList(
+            "int BAD", "int SYNTAX", "int NAME", "int TWICE", "int MANY", "int FALSE",
+            "new []",
+            "boolean type[char]", "int formula[]", "int trace[]", "int variables[]",
+            "int variable[int]", "int clauses[]", "int clause[int]", "int steps[]",
+            "int step[int]", "int rests[int]", "int empty[]", "boolean won[int, int]",
+            "int play[int]"));
+
+    public static void main(String[] args) {
+        constants();
+        members();
+        Checks.finish("FaceTest");
+    }
+
+    private static void constants() {
+        Checks.due("BAD", QuantifierProofs.BAD, -1);
+        Checks.due("SYNTAX", QuantifierProofs.SYNTAX, 1);
+        Checks.due("NAME", QuantifierProofs.NAME, 2);
+        Checks.due("TWICE", QuantifierProofs.TWICE, 3);
+        Checks.due("MANY", QuantifierProofs.MANY, 4);
+        Checks.due("FALSE", QuantifierProofs.FALSE, 5);
+    }
+
+    private static void members() {
+        Set<String> seen = new TreeSet<>();
+        for (Field f : QuantifierProofs.class.getDeclaredFields()) {
+            if (shown(f.getModifiers())) {
+                seen.add(f.getType() + " " + f.getName());
+                int due = Modifier.PUBLIC | Modifier.STATIC | Modifier.FINAL;
+                Checks.due("modifiers of " + f.getName(), f.getModifiers(), due);
+            }
+        }
+        for (Constructor<?> c : QuantifierProofs.class.getDeclaredConstructors()) {
+            seen.add("new " + Arrays.toString(c.getParameterTypes()));
+            Checks.due("modifiers of the constructor", c.getModifiers(), Modifier.PUBLIC);
+        }
+        for (Method m : QuantifierProofs.class.getDeclaredMethods()) {
+            if (shown(m.getModifiers())) {
+                seen.add(m.getReturnType() + " " + m.getName()
+                        + Arrays.toString(m.getParameterTypes()));
+                Checks.due("modifiers of " + m.getName(), m.getModifiers(), Modifier.PUBLIC);
+            }
+        }
+        Checks.due("the face is the document's, not " + seen, seen.equals(FACE), true);
+        Checks.due("the class's modifiers", QuantifierProofs.class.getModifiers(),
+                Modifier.PUBLIC | Modifier.FINAL);
+    }
+
+    private static boolean shown(int modifiers) {
+        return !Modifier.isPrivate(modifiers);
+    }
+}
