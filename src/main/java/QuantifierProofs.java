@@ -115,30 +115,26 @@ public final class QuantifierProofs {
         int played = 0;
         for (int i = 0; i < current.variableCount; i++) {
             boolean forAll = current.isForAll(current.order[i]);
-            int chosen = forAll ? current.choiceOfAll(i, played) : values >> i & 1;
+            int chosen = forAll ? current.choiceOfAll(i, played) : (values >> i) & 1;
             played |= chosen << i;
         }
         boolean someWins = current.isWon(current.variableCount, played);
         return someWins ? played + SOME_WINS_MARK : played;
     }
 
+    /** FINE, or what is wrong first and its place in one number. */
     private int readBuffer(Reader reader) {
-        int wrong = firstWrong(reader);
-        int place = words.place();
-        words.forget();
-        return wrong == FINE ? FINE : WRONG_FACTOR * wrong - place;
-    }
-
-    /** FINE or what is wrong first; the words then stand at its place. */
-    private int firstWrong(Reader reader) {
+        int wrong = FINE;
         words.rewind();
-        for (int n = 0; n < MOST_CHARACTERS && words.advance(); n++) {
-            int wrong = reader.take(words);
-            if (wrong != FINE) {
-                return wrong;
-            }
+        for (int n = 0; n < MOST_CHARACTERS && wrong == FINE && words.advance(); n++) {
+            wrong = reader.take(words);
         }
-        return reader.mayEnd() ? FINE : SYNTAX;
+        if (wrong == FINE && !reader.mayEnd()) {
+            wrong = SYNTAX;
+        }
+        int answer = wrong == FINE ? FINE : WRONG_FACTOR * wrong - words.place();
+        words.forget();
+        return answer;
     }
 
     private static int setOf(int literal) {
@@ -189,7 +185,6 @@ public final class QuantifierProofs {
         }
 
         void rewind() {
-            start = 0;
             end = 0;
         }
 
@@ -326,7 +321,7 @@ public final class QuantifierProofs {
         boolean isWon(int n, int values) {
             int truths = 0;
             for (int i = 0; i < n && i < variableCount; i++) {
-                truths |= truth(i, values >> i & 1);
+                truths |= truth(i, (values >> i) & 1);
             }
             return someCanWin(this, n, truths);
         }
@@ -343,8 +338,12 @@ public final class QuantifierProofs {
         }
 
         private static boolean someCanWin(Formula game, int depth, int truths) {
+            // What is true stays true, so the values that are still to come cannot undo it.
+            if (game.isMetBy(truths)) {
+                return true;
+            }
             if (depth < 0 || depth >= game.variableCount) {
-                return game.isMetBy(truths);
+                return false;
             }
             boolean allChooses = game.isForAll(game.order[depth]);
             boolean wonWithZero = someCanWin(game, depth + 1, truths | game.truth(depth, 0));
@@ -522,14 +521,21 @@ public final class QuantifierProofs {
             if (!words.isNumber()) {
                 return SYNTAX;
             }
-            switch (stage) {
-                case AT_STEP:
-                    return beginStep(words.value());
-                case IN_LITERALS:
-                    return takeLiteral(words.value());
-                default:
-                    return takePremise(words.value());
+            int number = words.value();
+            if (stage == AT_STEP) {
+                return beginStep(number);
             }
+            if (stage == IN_LITERALS) {
+                return takeLiteral(number);
+            }
+            if (number != 0) {
+                return takePremise(number);
+            }
+            if (!follows()) {
+                return FALSE;
+            }
+            endStep();
+            return FINE;
         }
 
         public boolean mayEnd() {
@@ -578,9 +584,6 @@ public final class QuantifierProofs {
         }
 
         private int takePremise(int number) {
-            if (number == 0) {
-                return endStep();
-            }
             int premise = proof.find(number);
             if (!proof.has(premise) || proof.cubes[premise] != cube) {
                 return NAME;
@@ -593,17 +596,13 @@ public final class QuantifierProofs {
             return FINE;
         }
 
-        private int endStep() {
-            if (!follows()) {
-                return FALSE;
-            }
+        private void endStep() {
             int grounds = 0;
             for (int i = 0; i < premiseCount; i++) {
                 grounds |= proof.grounds[premises[i]];
             }
             proof.add(id, literals, cube, grounds);
             stage = AT_STEP;
-            return FINE;
         }
 
         private boolean follows() {

@@ -83,7 +83,8 @@ public final class BufferTest {
 
     private static void numbers() {
         String[] none = {"00", "01", "-0", "-00", "-01", "001", "1000", "-1000", "0000", "-", "--1",
-            "1-", "1-1", "+1", "1a", "a1", "1.", "1,", "/", ":", "1/", "1:", "0x1", "-a", "12345678901"};
+            "1-", "1-1", "+1", "1a", "a1", "1.", "1,", "/", ":", "1/", "1:", "0x1", "-a",
+            "12345678901"};
         for (String word : none) {
             Checks.formulaWrong("e 1 0 ^" + word + " 0", QuantifierProofs.SYNTAX);
             Checks.traceWrong(Checks.with("e 1 0"), "r 1 ^" + word, QuantifierProofs.SYNTAX);

@@ -11,6 +11,7 @@ public final class FormulaTest {
         firstOfSeveral();
         wrongChangesNothing();
         rightReplaces();
+        nothingIsLeftOfEarlierOnes();
         Checks.finish("FormulaTest");
     }
 
@@ -171,5 +172,24 @@ public final class FormulaTest {
         Checks.due("no variables", x.variables(), 0);
         Checks.due("no clauses", x.clauses(), 0);
         Checks.due("no steps again", x.steps(), 0);
+    }
+
+    private static void nothingIsLeftOfEarlierOnes() {
+        String[] right = {"a 1 0 1 0", "e 1 0 1 0 -1 0", "e 1 0", "a 2 1 0 2 0", "0",
+            "e 2 0 -2 0", ""};
+        int[] variables = {1, 1, 1, 2, 0, 1, 0};
+        int[] first = {11, 1, 1, 12, -1, 2, -1};
+        int[] clauses = {1, 2, 0, 1, 1, 1, 0};
+        String[] wrong = {"", "a 1 3 ?", "e 2", "a", "e 1 2 0 2 0 -2", "a 2 0 1", "0 0 0 0 0 0 x"};
+        for (String before : wrong) {
+            QuantifierProofs x = new QuantifierProofs();
+            for (int i = 0; i < right.length; i++) {
+                Checks.formula(x, before);
+                Checks.due("'" + right[i] + "' behind others", Checks.formula(x, right[i]), 0);
+                Checks.due("its variables", x.variables(), variables[i]);
+                Checks.due("its variable(0)", x.variable(0), first[i]);
+                Checks.due("its clauses", x.clauses(), clauses[i]);
+            }
+        }
     }
 }

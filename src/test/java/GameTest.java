@@ -78,6 +78,8 @@ public final class GameTest {
                 Checks.due("won with high bits", x.won(n, values | -8), plain);
             }
         }
+        Checks.due("ALL is still to choose", Checks.with("a 1 0 1 0").won(0, 1), false);
+        Checks.due("SOME is still to choose", Checks.with("e 1 0 1 0").won(0, 0), true);
         Checks.due("play(5)", x.play(5), 256 + 5);
         Checks.due("play with other bits", x.play(-8 + 5), 256 + 5);
         Checks.due("play with ALL's bit", x.play(7), 256 + 5);
@@ -114,6 +116,12 @@ public final class GameTest {
         x = Checks.with("a 1 0 e 2 0 -1 2 0 -1 -2 0");
         Checks.due("ALL looks ahead", x.play(0), 1);
         Checks.due("ALL looks ahead", x.play(2), 3);
+        // With 0 SOME could still win, by a good value of 2 that is not the one to be played.
+        x = Checks.with("a 1 0 e 2 0 1 2 0 -1 0");
+        Checks.due("ALL expects good play", x.play(0), 1);
+        Checks.due("ALL expects good play", x.play(2), 3);
+        x = Checks.with("a 1 0 e 2 0 1 -2 0 -1 0");
+        Checks.due("ALL expects good play", x.play(0), 1);
     }
 
     private static void eightVariables() {

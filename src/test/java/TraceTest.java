@@ -15,6 +15,7 @@ public final class TraceTest {
         resolution();
         resolutionOfCubes();
         resolutionWithSideVariables();
+        eightVariables();
         wrongLeavesStepsBefore();
         restsOnAll();
         firstEmpty();
@@ -153,7 +154,7 @@ public final class TraceTest {
     }
 
     private static void reductionOfClauses() {
-        // 1 and 5 are side variables before and behind the main ones; 6 is main, but not in the clause.
+        // Side variables 1 and 5 come before and behind the main ones; 6 is main, but in no clause.
         QuantifierProofs x = Checks.with("a 1 0 e 2 0 a 3 0 e 4 0 a 5 0 e 6 0 "
                 + "1 2 3 -5 0 1 -3 5 0 2 -4 0 1 4 5 0");
         Checks.traceDue(x, "r 1 1 2 3 -5 0 0 2 1 -3 5 0 0 3 2 -4 0 0 4 1 4 5 0 0", 4);
@@ -236,6 +237,17 @@ public final class TraceTest {
         Checks.traceWrong(x, "r 8 2 -2 0 5 4 ^0", QuantifierProofs.FALSE);
         Checks.traceWrong(x, "r 8 2 -2 0 4 5 ^0", QuantifierProofs.FALSE);
         Checks.due("step(4)", x.step(4), Checks.set(2, -2, 3));
+    }
+
+    private static void eightVariables() {
+        QuantifierProofs x = Checks.with("a 8 0 e 7 0 a 6 0 e 5 0 a 4 0 e 3 0 a 2 1 0 "
+                + "8 7 6 5 4 3 2 1 0 -8 7 6 5 4 -3 -2 -1 0 8 -6 -4 -2 0");
+        Checks.traceDue(x, "r 1 8 7 6 5 4 3 2 1 0 0 2 -8 7 6 5 4 -3 -2 -1 0 0 3 8 -6 -4 -2 0 0", 3);
+        // 8 comes first: it is inner to nothing, though 1 and 2 are inner to 3.
+        Checks.traceWrong(x, "r 4 8 -8 7 6 5 4 2 -2 1 -1 0 1 2 ^0", QuantifierProofs.FALSE);
+        Checks.traceDue(x, "r 4 8 7 6 5 4 3 0 1 0 5 -8 7 6 5 4 -3 0 2 0 6 0 3 0", 3);
+        Checks.due("step(4)", x.step(4), Checks.set(-8, 7, 6, 5, 4, -3));
+        Checks.due("empty", x.empty(), 5);
     }
 
     private static void wrongLeavesStepsBefore() {
