@@ -24,6 +24,8 @@ public final class FaceTest {
 
     private static void constants() {
         Checks.due("BAD", QuantifierProofs.BAD, -1);
+        Checks.sentence("Terms",
+                "`SYNTAX = 1, NAME = 2, TWICE = 3, MANY = 4, FALSE = 5`: What is wrong.");
         Checks.due("SYNTAX", QuantifierProofs.SYNTAX, 1);
         Checks.due("NAME", QuantifierProofs.NAME, 2);
         Checks.due("TWICE", QuantifierProofs.TWICE, 3);
@@ -32,6 +34,7 @@ public final class FaceTest {
     }
 
     private static void members() {
+        Checks.sentence("The public face", "public final class QuantifierProofs {");
         Set<String> seen = new TreeSet<>();
         for (Field f : QuantifierProofs.class.getDeclaredFields()) {
             if (shown(f.getModifiers())) {

@@ -56,7 +56,7 @@ public final class FollowsTest {
     }
 
     private static void inner() {
-        Checks.sentence("The trace",
+        Checks.sentence("The formula",
                 "One variable is INNER to another one if it comes behind it in the order.");
         // How great the numbers are does not matter, only where they come.
         Subject x = Subject.with("e 8 0 a 1 0 8 1 0");
@@ -145,7 +145,8 @@ public final class FollowsTest {
         // 1, 3 and 5 are side variables of clauses, 2, 4 and 6 main ones.
         Subject x = Subject.with("a 1 0 e 2 0 a 3 0 e 4 0 a 5 0 e 6 0 "
                 + "1 2 3 -5 0 2 -3 4 0 1 4 5 0 2 -4 0 -3 -6 0 1 -3 5 0");
-        x.traceDue("r 1 1 2 3 -5 0 0 2 2 -3 4 0 0 3 1 4 5 0 0 4 2 -4 0 0 5 -3 -6 0 0 6 1 -3 5 0 0", 6);
+        x.traceDue("r 1 1 2 3 -5 0 0 2 2 -3 4 0 0 3 1 4 5 0 0", 3);
+        x.traceDue("r 4 2 -4 0 0 5 -3 -6 0 0 6 1 -3 5 0 0", 3);
         // 3 and 5 are inner to 2; 1 is not.
         x.traceDue("r 11 1 2 0 1 0", 1);
         // 3 is inner to 2, but not to 4, so not to all.
@@ -184,7 +185,8 @@ public final class FollowsTest {
         Checks.sentence("The trace", "for a cube the other way round");
         // 1, 3 and 5 are side variables of cubes, 2, 4 and 6 main ones.
         Subject x = Subject.with("e 1 0 a 2 0 e 3 0 a 4 0 e 5 0 a 6 0");
-        x.traceDue("s 1 1 2 3 -5 0 0 2 2 -3 4 0 0 3 1 4 5 0 0 4 2 -4 0 0 5 -3 -6 0 0 6 1 -3 5 0 0", 6);
+        x.traceDue("s 1 1 2 3 -5 0 0 2 2 -3 4 0 0 3 1 4 5 0 0", 3);
+        x.traceDue("s 4 2 -4 0 0 5 -3 -6 0 0 6 1 -3 5 0 0", 3);
         x.traceDue("s 11 1 2 0 1 0 12 2 -3 4 0 2 0 13 1 4 0 3 0 14 2 -4 0 4 0", 4);
         x.traceDue("s 15 -3 -6 0 5 0 16 0 6 0", 2);
         x.traceWrong(FALSE, "s 17 1 2 3 0 1 ^0");

@@ -7,7 +7,8 @@ public final class FormulaTest {
 
     private static final String EIGHT = "e 1 2 3 4 5 6 7 8 0 ";
     private static final String TWELVE = "0 0 0 0 0 0 0 0 0 0 0 0 ";
-    private static final int[] NEVER = {-2, -256, 24, 32, 256, Integer.MAX_VALUE, Integer.MIN_VALUE};
+    private static final int[] NEVER = {-2, -256, 24, 32, 256, Integer.MAX_VALUE,
+        Integer.MIN_VALUE};
 
     public static void main(String[] args) {
         terms();
@@ -50,7 +51,8 @@ public final class FormulaTest {
 
     private static void upTo12Clauses() {
         Checks.sentence("The formula", "and up to 12 CLAUSES");
-        Subject x = Subject.with("e 1 2 0 1 0 2 0 -1 0 -2 0 1 2 0 1 -2 0 -1 2 0 -1 -2 0 1 0 0 0 2 0");
+        Subject x = Subject.with("e 1 2 0 "
+                + "1 0 2 0 -1 0 -2 0 1 2 0 1 -2 0 -1 2 0 -1 -2 0 1 0 0 0 2 0");
         x.clausesDue(1, 2, 256, 512, 3, 513, 258, 768, 1, 0, 0, 2);
         x.formulaWrong(MANY, TWELVE + "^0");
         x.formulaDue(TWELVE, 0);
@@ -142,7 +144,9 @@ public final class FormulaTest {
     }
 
     private static void theFirstWord() {
-        Checks.sentence("The formula", "The first word is WRONG");
+        Checks.sentence("The formula",
+                "The first word is WRONG, with the first of these that is so");
+        // No word of a formula is wrong in two of these ways: it is the words that tell.
         Checks.formulasWrong(SYNTAX, "^? e 9 0", "e ^-1 9 0", "e 1 0 ^x 2 0", "e 1 0 1 ^a 1 2");
         Checks.formulasWrong(NAME, "e ^9 0 ? 1 1", "e 1 ^1 -1", "e 1 0 ^2 1 1 0", "e 1 0 ^-2 a");
         Checks.formulasWrong(TWICE, "e 1 0 1 ^1 2 x", "e 1 0 1 ^-1 a 2");
@@ -284,6 +288,12 @@ public final class FormulaTest {
         x.formulaWrong(SYNTAX, "e 1^");
         x.formulaDue("0", 0);
         x.variablesDue();
+        x.clausesDue(0);
+        x.formulaWrong(SYNTAX, "e 1^");
+        x.formulaWrong(NAME, "^2 0");
+        x.formulaWrong(SYNTAX, "e^");
+        x.formulaDue("", 0);
+        x.clausesDue();
         x.formulaWrong(SYNTAX, "e 1 0 1^");
         x.formulaDue("e 1 0 1 0", 0);
         x.formulaWrong(SYNTAX, "e^");
@@ -306,7 +316,8 @@ public final class FormulaTest {
         Checks.sentence("Promise 3", "Reads the buffer, which is empty then, as a formula");
         Subject x = Subject.with("e 1 0 1 0");
         x.bufferEmptyDue();
-        String[] wrong = {"^x", "e ^9 0", "e 1 0 1 ^1 0", TWELVE + "^0", "e 1 0 1^", "e 1 0 1 ^-1 1"};
+        String[] wrong = {"^x", "e ^9 0", "e 1 0 1 ^1 0", TWELVE + "^0", "e 1 0 1^",
+            "e 1 0 1 ^-1 1"};
         int[] what = {SYNTAX, NAME, TWICE, MANY, SYNTAX, TWICE};
         for (int i = 0; i < wrong.length; i++) {
             x.formulaWrong(what[i], wrong[i]);

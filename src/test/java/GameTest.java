@@ -16,6 +16,7 @@ public final class GameTest {
         withoutClauses();
         outOfRange();
         someChooses();
+        theIth();
         bitsOfAll();
         leastValueNotWon();
         noneSuch();
@@ -94,8 +95,8 @@ public final class GameTest {
     }
 
     private static void someCanWin() {
-        Checks.sentence("The game", "A formula with values for its first variables is WON if SOME can "
-                + "win from there on whatever ALL does.");
+        Checks.sentence("The game", "A formula with values for its first variables is WON if SOME "
+                + "can win from there on whatever ALL does.");
         Subject x = Subject.with("a 1 0 e 2 0 1 -2 0 -1 2 0");
         x.wonDue(0, 0, true);
         x.wonDue(1, 0, true);
@@ -214,12 +215,6 @@ public final class GameTest {
         for (int values = 0; values < 8; values++) {
             x.playDue(values, values % 4 == 1 ? WINS + values : values);
         }
-        // Bit i is that of the one that comes i-th, not that of variable i.
-        x = Subject.with("e 7 0 e 3 0 7 0 -3 0");
-        x.playDue(0, 0);
-        x.playDue(1, WINS + 1);
-        x.playDue(2, 2);
-        x.playDue(3, 3);
         x = Subject.with("e 1 2 3 4 5 6 7 8 0 1 0 -8 0");
         for (int i = 0; i < 8; i++) {
             x.playDue(1 << i, i == 0 ? WINS + 1 : 1 << i);
@@ -233,6 +228,22 @@ public final class GameTest {
         x.playDue(256, 0);
         x.playDue(Integer.MIN_VALUE, 0);
         x.playDue(Integer.MAX_VALUE, WINS + 1);
+    }
+
+    private static void theIth() {
+        Checks.sentence("Promise 14", "if it is the i-th");
+        // Where it comes counts, from 0, not its number.
+        Subject x = Subject.with("e 7 0 e 3 0 7 0 -3 0");
+        x.playDue(0, 0);
+        x.playDue(1, WINS + 1);
+        x.playDue(2, 2);
+        x.playDue(3, 3);
+        // Those of ALL are counted as well.
+        x = Subject.with("a 1 0 e 8 0 a 3 0 e 2 0 8 0 -2 0");
+        x.playDue(2, WINS + 2);
+        x.playDue(1, 0);
+        x.playDue(10, 10);
+        x.playDue(8, 8);
     }
 
     private static void bitsOfAll() {

@@ -60,9 +60,9 @@ final class Subject {
         traceDue(marked.replace("^", ""), -1000 * what - marked.indexOf('^'));
     }
 
-    /** The end of an empty buffer is the place 0; asking so leaves formula and steps alone. */
+    /** Whatever stood in the buffer would be wrong itself, or move the place of the x. */
     void bufferEmptyDue() {
-        Checks.due("trace of an empty buffer", call().trace(), -1000 * QuantifierProofs.SYNTAX);
+        traceWrong(QuantifierProofs.SYNTAX, "r ^x");
     }
 
     // ---- what is told: all of it, and BAD before and behind it

@@ -160,7 +160,7 @@ public final class TraceTest {
 
     private static void syntax() {
         Checks.sentence("The trace", "SYNTAX: it is neither a number nor a letter");
-        for (String word : new String[] {"x", "?", "-", "00", "-0", "1000", "-01", "1r", "rs", "R"}) {
+        for (String word : new String[] {"x", "?", "-", "00", "-0", "1000", "-01", "1r", "rs"}) {
             Checks.tracesWrong(FORMULA, SYNTAX, "^" + word, "  ^" + word + " r 1 1 0 0");
             for (String stage : STAGES) {
                 Checks.tracesWrong(FORMULA, SYNTAX, stage + "^" + word + " 0");
@@ -278,8 +278,8 @@ public final class TraceTest {
 
     private static void twiceManyFalse() {
         Checks.sentence("The trace", "TWICE: a literal that is in the set already");
-        Checks.tracesWrong(FORMULA, TWICE, "r 1 1 ^1 0 0", "r 1 -1 ^-1", "s 1 1 2 ^1", "r 1 1 -2 ^-2",
-                "r 1 1 -1 ^1", "r 1 -1 1 ^-1", "r 1 1 0 0 2 1 2 ^2");
+        Checks.tracesWrong(FORMULA, TWICE, "r 1 1 ^1 0 0", "r 1 -1 ^-1", "s 1 1 2 ^1",
+                "r 1 1 -2 ^-2", "r 1 1 -1 ^1", "r 1 -1 1 ^-1", "r 1 1 0 0 2 1 2 ^2");
         Checks.tracesWrong("a 8 0 8 0", TWICE, "r 1 8 ^8", "s 1 -8 ^-8");
         // The other way is no fault of reading: only the step does not follow.
         Checks.tracesWrong(FORMULA, FALSE, "r 1 1 -1 0 ^0", "r 1 -1 1 2 -2 0 ^0");
@@ -345,8 +345,8 @@ public final class TraceTest {
     // ---- The end, and what stays
 
     private static void endAndWhatStays() {
-        Checks.sentence("The trace",
-                "the end is within a step, or nothing is there at all, that is SYNTAX");
+        Checks.sentence("The trace", "When no word is wrong, but the end is within a step, or "
+                + "nothing is there at all, that is SYNTAX (its place is that of the end).");
         Checks.tracesWrong(FORMULA, SYNTAX, "^", " ^", "     ^");
         Checks.tracesWrong(FORMULA, SYNTAX, "r 1^", "r 1 ^", "s 1   ^", "r 1 1^", "r 1 1 -2  ^",
                 "r 1 1 0^", "r 1 1 0 ^", "r 1 0^", "r 1 1 0 0 2^", "r 1 1 0 0 2 1 0 1^",
@@ -387,8 +387,8 @@ public final class TraceTest {
         Subject x = Subject.with(FORMULA);
         x.traceDue("r 1 1 0 0", 1);
         x.bufferEmptyDue();
-        String[] wrong = {"^x", "r ^100", "r 2 1 ^1", "r 2 1 0 1 1 ^1", "r 2 2 0 ^0", "r 2 2 0 ^0 3",
-            "r 2 1^", "  ^"};
+        String[] wrong = {"^x", "r ^100", "r 2 1 ^1", "r 2 1 0 1 1 ^1", "r 2 2 0 ^0",
+            "r 2 2 0 ^0 3", "r 2 1^", "  ^"};
         int[] what = {SYNTAX, NAME, TWICE, MANY, FALSE, FALSE, SYNTAX, SYNTAX};
         for (int i = 0; i < wrong.length; i++) {
             x.traceWrong(what[i], wrong[i]);

@@ -68,7 +68,8 @@ public final class WordsTest {
     private static void rowsWithoutSpaces() {
         Checks.sentence("The buffer", "rows of characters that are no space, as long as can be");
         Checks.formulasWrong(NAME, "e 1 0 ^12 0", "e ^12 0", "e 1 0 ^-12 0");
-        Checks.formulasWrong(SYNTAX, "^e1 0", "e ^1e 0", "^a0", "e 1 0 ^1-1 0", "^" + "1".repeat(200));
+        Checks.formulasWrong(SYNTAX, "^e1 0", "e ^1e 0", "^a0", "e 1 0 ^1-1 0",
+                "^" + "1".repeat(200));
         Checks.tracesWrong("0", SYNTAX, "^rs", "^r1 0 0", "r 1 ^0r");
         Subject x = Subject.with("   e  1   2 0     1  -2    0   ");
         x.variablesDue(1, 2);
