@@ -408,6 +408,15 @@ public final class FollowsTest {
         for (int i = 0; i < 24; i++) {
             x.restDue(i, (int) Math.pow(2, i + 1) - 1);
         }
+        // A whole proof that a formula is true, and one that a formula is not.
+        x = Subject.with("a 1 0 e 2 0 1 -2 0 -1 2 0");
+        x.traceDue("s 5 1 2 0 0 6 -1 -2 0 0 7 1 0 5 0 8 -1 0 6 0 9 0 7 8 0", 5);
+        x.restsDue(1, 2, 4 + 1, 8 + 2, 31);
+        x.wonDue(0, 0, true);
+        x = Subject.with("e 2 0 a 1 0 1 -2 0 -1 2 0");
+        x.traceDue("r 5 1 -2 0 0 6 -1 2 0 0 7 -2 0 5 0 8 2 0 6 0 9 0 7 8 0", 5);
+        x.restsDue(1, 2, 4 + 1, 8 + 2, 31);
+        x.wonDue(0, 0, false);
         // 24 steps that rest on nothing but themselves.
         x = new Subject();
         for (int i = 0; i < 24; i++) {

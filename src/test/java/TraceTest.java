@@ -8,6 +8,9 @@ public final class TraceTest {
 
     /** 1 and -1 2 are clauses, 1 2 is a cube. */
     private static final String FORMULA = "e 1 2 0 1 0 -1 2 0";
+    /** The beginnings of a trace behind which a word can be wrong, but for the very first. */
+    private static final String[] STAGES = {"r ", "s ", "r 1 ", "r 1 1 ", "s 1 -2 2 ", "r 1 1 0 ",
+        "r 1 1 0 0 ", "r 1 1 0 0 2 1 0 1 ", "r 1 1 0 0 2 -1 2 0 0 3 2 0 1 2 "};
     private static final int[] NEVER = {-2, 25, 31, 32, 33, 256, Integer.MAX_VALUE,
         Integer.MIN_VALUE};
 
@@ -153,10 +156,6 @@ public final class TraceTest {
     }
 
     // ---- SYNTAX
-
-    /** The beginnings of a trace behind which a word can be wrong, but for the very first. */
-    private static final String[] STAGES = {"r ", "s ", "r 1 ", "r 1 1 ", "s 1 -2 2 ", "r 1 1 0 ",
-        "r 1 1 0 0 ", "r 1 1 0 0 2 1 0 1 ", "r 1 1 0 0 2 -1 2 0 0 3 2 0 1 2 "};
 
     private static void syntax() {
         Checks.sentence("The trace", "SYNTAX: it is neither a number nor a letter");
