@@ -25,19 +25,17 @@ public final class QuantifierProofs {
     private static final int SOME_WINS_MARK = 256;
 
     private final Words words;
-    private final Proof proof;
-    private Formula current;
-    private Formula draft;
     private final FormulaReader formulaReader;
     private final TraceReader traceReader;
+    private final Proof proof;
+    private Formula current;
 
     public QuantifierProofs() {
         words = new Words();
-        proof = new Proof();
-        current = new Formula();
-        draft = new Formula();
-        formulaReader = new FormulaReader(draft);
-        traceReader = new TraceReader(current, proof);
+        formulaReader = new FormulaReader();
+        traceReader = new TraceReader();
+        proof = traceReader.proof;
+        current = traceReader.formula;
     }
 
     public boolean type(char c) {
@@ -45,12 +43,10 @@ public final class QuantifierProofs {
     }
 
     public int formula() {
-        formulaReader.begin(draft);
+        formulaReader.begin();
         int answer = readBuffer(formulaReader);
         if (answer == FINE) {
-            Formula replaced = current;
-            current = draft;
-            draft = replaced;
+            current = formulaReader.exchange(current);
             proof.forget();
         }
         return answer;
@@ -397,25 +393,27 @@ public final class QuantifierProofs {
         }
     }
 
-    /** Reads a formula. */
+    /** Reads a formula into a draft, so that one with a wrong word leaves the current one alone. */
     private static final class FormulaReader implements Reader {
-        private Formula target;
+        private Formula draft = new Formula();
         private boolean blockMayBegin;
         private boolean inBlock;
         private boolean blockHasVariables;
         private boolean blockIsForAll;
         private int literals;
 
-        FormulaReader(Formula toFill) {
-            target = toFill;
-        }
-
-        void begin(Formula toFill) {
-            target = toFill;
-            target.forget();
+        void begin() {
+            draft.forget();
             blockMayBegin = true;
             inBlock = false;
             literals = 0;
+        }
+
+        /** The formula that was read; the one that it replaces is written over by the next. */
+        Formula exchange(Formula replaced) {
+            Formula read = draft;
+            draft = replaced;
+            return read;
         }
 
         public int take(Words words) {
@@ -452,10 +450,10 @@ public final class QuantifierProofs {
             if (number == 0) {
                 return endBlock();
             }
-            if (number > MOST_VARIABLES || target.hasLiteral(number)) {
+            if (number > MOST_VARIABLES || draft.hasLiteral(number)) {
                 return NAME;
             }
-            target.addVariable(number, blockIsForAll);
+            draft.addVariable(number, blockIsForAll);
             blockHasVariables = true;
             return FINE;
         }
@@ -473,7 +471,7 @@ public final class QuantifierProofs {
             if (number == 0) {
                 return endClause();
             }
-            if (!target.hasLiteral(number)) {
+            if (!draft.hasLiteral(number)) {
                 return NAME;
             }
             if ((literals & (setOf(number) | setOf(-number))) != 0) {
@@ -484,7 +482,7 @@ public final class QuantifierProofs {
         }
 
         private int endClause() {
-            boolean added = target.addClause(literals);
+            boolean added = draft.addClause(literals);
             literals = 0;
             return added ? FINE : MANY;
         }
@@ -495,19 +493,14 @@ public final class QuantifierProofs {
         private static final int AT_LETTER = 0, AT_STEP = 1, IN_LITERALS = 2, IN_PREMISES = 3;
         private static final int MOST_PREMISES = 2;
 
-        private final Proof proof;
+        private final Proof proof = new Proof();
         private final int[] premises = new int[MOST_PREMISES];
-        private Formula formula;
+        private Formula formula = new Formula();
         private int stage;
         private boolean cube;
         private int id;
         private int literals;
         private int premiseCount;
-
-        TraceReader(Formula about, Proof toExtend) {
-            formula = about;
-            proof = toExtend;
-        }
 
         void begin(Formula about) {
             formula = about;
