@@ -19,10 +19,12 @@ public final class FaceTest {
     public static void main(String[] args) {
         constants();
         members();
+        lastCalls();
         Checks.finish("FaceTest");
     }
 
     private static void constants() {
+        Checks.sentence("The public face", "public static final int BAD = -1;");
         Checks.due("BAD", QuantifierProofs.BAD, -1);
         Checks.sentence("Terms",
                 "`SYNTAX = 1, NAME = 2, TWICE = 3, MANY = 4, FALSE = 5`: What is wrong.");
@@ -57,6 +59,36 @@ public final class FaceTest {
         Checks.due("the face is the document's, not " + seen, seen.equals(FACE), true);
         Checks.due("the class's modifiers", QuantifierProofs.class.getModifiers(),
                 Modifier.PUBLIC | Modifier.FINAL);
+    }
+
+    private static void lastCalls() {
+        Checks.sentence("What it is",
+                "An object is used for at most 512 calls after it has been made");
+        String formula = "e 1 0 -1 0";
+        used(formula.length() + 1).formulaDue(formula, 0);
+        String trace = "s 7 1 2 0 0";
+        used(trace.length() + 1).traceDue(trace, 1);
+        used(1).type("x");
+        used(1).stepCountDue(5);
+        used(1).stepDue(0, Checks.cube(1, 2));
+        used(1).restDue(4, 31);
+        used(1).emptyDue(4);
+        used(1).variableDue(0, 11);
+        used(1).clauseDue(1, Checks.set(-1, 2));
+        used(1).wonDue(0, 0, true);
+        used(1).playDue(2, 2);
+        Checks.due("variables()", used(1).call().variables(), 2);
+        Checks.due("clauses()", used(1).call().clauses(), 2);
+    }
+
+    /** An object with a formula and a proof that has so many calls left. */
+    private static Subject used(int callsLeft) {
+        Subject x = Subject.with("a 1 0 e 2 0 1 -2 0 -1 2 0");
+        x.traceDue("s 1 1 2 0 0 2 -1 -2 0 0 3 1 0 1 0 4 -1 0 2 0 5 0 3 4 0", 5);
+        while (x.callsLeft() > callsLeft) {
+            x.wonDue(0, 0, true);
+        }
+        return x;
     }
 
     private static boolean shown(int modifiers) {

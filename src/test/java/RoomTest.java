@@ -1,5 +1,10 @@
 import com.sun.management.ThreadMXBean;
 import java.lang.management.ManagementFactory;
+import java.lang.reflect.Array;
+import java.lang.reflect.Field;
+import java.lang.reflect.Modifier;
+import java.util.IdentityHashMap;
+import java.util.Map;
 
 /** All calls of a run share one room: an object makes its rows with itself, and then no more. */
 public final class RoomTest {
@@ -13,7 +18,16 @@ public final class RoomTest {
     private static final ThreadMXBean THREADS =
             (ThreadMXBean) ManagementFactory.getThreadMXBean();
 
-    public static void main(String[] args) {
+    public static void main(String[] args) throws IllegalAccessException {
+        counted(new QuantifierProofs(), "a new object");
+        QuantifierProofs used = new QuantifierProofs();
+        everyCall(used);
+        counted(used, "a used object");
+        nothingIsMade();
+        Checks.finish("RoomTest");
+    }
+
+    private static void nothingIsMade() {
         if (!THREADS.isThreadAllocatedMemorySupported()) {
             System.out.println("RoomTest: this machine does not tell what is made");
             return;
@@ -39,7 +53,32 @@ public final class RoomTest {
         // The asking itself may make a little, but not as much as one call of each object would.
         Checks.due(bytes + " bytes are none", bytes < OBJECTS * LEAST_BYTES_OF_ANYTHING, true);
         Checks.due("and the calls were made", sum, answers * OBJECTS);
-        Checks.finish("RoomTest");
+    }
+
+    /** As many objects and arrays, and fields and elements, as README.md tells. */
+    private static void counted(QuantifierProofs x, String what) throws IllegalAccessException {
+        Map<Object, Object> seen = new IdentityHashMap<>();
+        int fields = count(x, seen);
+        Checks.due("objects and arrays of " + what, seen.size(), 17);
+        Checks.due("fields and elements of " + what, fields, 380);
+    }
+
+    private static int count(Object object, Map<Object, Object> seen)
+            throws IllegalAccessException {
+        if (object == null || seen.put(object, object) != null) {
+            return 0;
+        }
+        if (object.getClass().isArray()) {
+            return Array.getLength(object);
+        }
+        int sum = 0;
+        for (Field f : object.getClass().getDeclaredFields()) {
+            if (!Modifier.isStatic(f.getModifiers())) {
+                f.setAccessible(true);
+                sum += 1 + (f.getType().isPrimitive() ? 0 : count(f.get(object), seen));
+            }
+        }
+        return sum;
     }
 
     private static long made() {

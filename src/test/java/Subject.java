@@ -25,6 +25,10 @@ final class Subject {
         return x;
     }
 
+    int callsLeft() {
+        return MOST_CALLS - calls;
+    }
+
     /** Types characters that all must be taken. */
     void type(String text) {
         for (int i = 0; i < text.length(); i++) {
